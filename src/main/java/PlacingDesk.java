@@ -16,6 +16,8 @@ public final class PlacingDesk {
     /** What a PLACE of the PLAN counts more if a TOUR begins with it. */
     private static final int BEGINS = 16;
     private static final int MISS_NUMBERS = 200;
+    /** Far above what TO LAY can need: each exchange lessens TICKS, which are some thousands. */
+    private static final int MOST_EXCHANGES = 1000000;
 
     private final Board board;
     private final Slots slots;
@@ -140,8 +142,9 @@ public final class PlacingDesk {
         if (!reckoner.isGood()) {
             return NONE;
         }
-        int exchanges = reckoner.layFeeders();
-        if (exchanges > 0) {
+        int exchanges = 0;
+        while (exchanges < MOST_EXCHANGES && reckoner.makeBestExchange()) {
+            exchanges++;
             trip.exists = false;
         }
         return exchanges;
@@ -481,10 +484,8 @@ public final class PlacingDesk {
         }
     }
 
-    /** Whether the PLAN is GOOD, its TICKS, and TO LAY. */
+    /** Whether the PLAN is GOOD, its TICKS, and the exchanges that lessen them. */
     private static final class Reckoner {
-        private static final int MOST_ROUNDS = 1000000;
-
         private final Board board;
         private final Slots slots;
         private final Gear gear;
@@ -590,22 +591,16 @@ public final class PlacingDesk {
             return fines;
         }
 
-        /** TO LAY, with a PLAN that is GOOD: how many exchanges were made. */
-        int layFeeders() {
-            int exchanges = 0;
-            while (exchanges < MOST_ROUNDS && makeBestExchange()) {
-                exchanges++;
-            }
-            return exchanges;
-        }
-
-        private boolean makeBestExchange() {
+        /** One step of TO LAY, with a PLAN that is GOOD; false if no exchange lessens its TICKS. */
+        boolean makeBestExchange() {
             int fewest = reckon();
             int first = NONE;
             int second = NONE;
             for (int s = 0; s < SLOTS; s++) {
                 for (int t = s + 1; t < SLOTS; t++) {
-                    int after = reckonExchanged(s, t);
+                    slots.exchange(s, t);
+                    int after = reckon();
+                    slots.exchange(s, t);
                     if (after < fewest) {
                         fewest = after;
                         first = s;
@@ -618,13 +613,6 @@ public final class PlacingDesk {
             }
             slots.exchange(first, second);
             return true;
-        }
-
-        private int reckonExchanged(int s, int t) {
-            slots.exchange(s, t);
-            int after = reckon();
-            slots.exchange(s, t);
-            return after;
         }
     }
 
@@ -733,19 +721,21 @@ public final class PlacingDesk {
         private void tryTours(int done) {
             for (int p = 0; p < board.places; p++) {
                 if (canCome(p, done)) {
-                    extend(done, 1 << p, p, 0, withDigit(EMPTY_KEY, 0, p));
+                    extend(done, 1 << p, p, 0, withDigit(EMPTY_KEY, 0, p), 1);
                 }
             }
         }
 
-        /** All TOURS that begin with this one; inside is its way from its first PLACE to its last. */
-        private void extend(int done, int tour, int last, int inside, int key) {
-            int depth = Integer.bitCount(tour);
+        /**
+         * All TOURS that begin with this one, which has depth PLACES; inside is its way from its
+         * first PLACE to its last.
+         */
+        private void extend(int done, int tour, int last, int inside, int key, int depth) {
             if (depth < gear.nozzles && depth < DIGITS) {
                 for (int p = 0; p < board.places; p++) {
                     if (canCome(p, done | tour) && board.nozzleOf(p) == board.nozzleOf(last)) {
-                        int more = way(board.x[last], board.y[last], board.x[p], board.y[p]);
-                        extend(done, tour | (1 << p), p, inside + more, withDigit(key, depth, p));
+                        int way = inside + way(board.x[last], board.y[last], board.x[p], board.y[p]);
+                        extend(done, tour | (1 << p), p, way, withDigit(key, depth, p), depth + 1);
                     }
                 }
             }
@@ -843,7 +833,6 @@ public final class PlacingDesk {
             takes = 0;
             misses = 0;
             toursDone = 0;
-            stoppedFor = NONE;
             setPlaces = 0;
             missing = 0;
         }
@@ -860,7 +849,6 @@ public final class PlacingDesk {
                 }
                 toursDone++;
             }
-            next = row.length;
             ended = true;
         }
 

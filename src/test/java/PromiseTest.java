@@ -78,6 +78,7 @@ public final class PromiseTest {
         ticks();
         best();
         bestOfLikeOnes();
+        bestWithFineOnes();
         plan();
         lay();
         miss();
@@ -87,6 +88,7 @@ public final class PromiseTest {
         runLate();
         runStops();
         runStopsBehindMissing();
+        tenPlaces();
         told();
         state();
         slot();
@@ -112,6 +114,11 @@ public final class PromiseTest {
             due("new: kinds are small", desk.place(2 * k, 0, k), k);
         }
         due("new: like heights", desk.count(4), 0);
+        PlacingDesk heights = new PlacingDesk();
+        heights.kind(1, 1, 1, 0, false);
+        heights.place(50, 50, 0);
+        heights.place(53, 50, 1);
+        due("new: height 1", heights.count(4), 0);
         for (int k = 0; k < 8; k++) {
             desk.feeder(k, k, 1);
             desk.then(k, k % 2 == 0);
@@ -180,6 +187,13 @@ public final class PromiseTest {
         due("not ahead by x", nearness.ahead(0, 2), 0);
         due("not near by y", nearness.place(50, 43, 1), 3);
         due("not ahead by y", nearness.ahead(0, 3), 0);
+        PlacingDesk higherFirst = new PlacingDesk();
+        higherFirst.kind(1, 3, 5, 0, false);
+        higherFirst.place(50, 50, 1);
+        due("lower at sum and 2", higherFirst.place(56, 44, 0), 1);
+        due("lower at sum and 3", higherFirst.place(57, 50, 0), 2);
+        due("ahead at sum and 2", higherFirst.ahead(1, 0), 1);
+        due("not ahead at sum and 3", higherFirst.ahead(2, 0), 0);
         PlacingDesk many = deskOf(9);
         planSingly(many);
         many.run();
@@ -440,6 +454,11 @@ public final class PromiseTest {
         due("two nozzles in a tour", mixed.good(), 0);
         planSingly(mixed);
         due("a tour for each", mixed.good(), 1);
+        PlacingDesk zeroAhead = deskOf(2);
+        zeroAhead.late(1, 0);
+        zeroAhead.then(1, true);
+        zeroAhead.then(0, true);
+        due("place 0 must come first", zeroAhead.good(), 0);
         PlacingDesk order = deskOf(2);
         order.late(0, 1);
         order.then(0, true);
@@ -478,6 +497,13 @@ public final class PromiseTest {
         desk.feeder(0, 2, 7);
         due("the lowest slot of a kind", desk.ticks(), first + 20 - 20 + second);
         desk.feeder(0, NONE, 7);
+        PlacingDesk camera = new PlacingDesk();
+        camera.kind(0, 1, 1, 0, true);
+        camera.place(199, 100, 0);
+        camera.feeder(0, 0, 9);
+        camera.then(0, true);
+        due("from the camera up", camera.ticks(), 2 + 199 + 4 + 100 + 3);
+        due("in a run too", camera.run(), 2 + 199 + 4 + 100 + 3);
         desk.clear();
         desk.then(3, true);
         desk.then(1, true);
@@ -496,11 +522,18 @@ public final class PromiseTest {
         due("eight", eight.best(), NONE);
         due("eight: the plan stays", eight.count(1), 8);
         PlacingDesk seven = deskOf(7);
-        // From the left by pairs: 10, 30 | 50, 70 | 90, 110 | 130; each way back to slot 0 is its x.
         due("seven", seven.best() > 0, true);
         due("seven are in it", seven.count(1), 7);
         due("it is good", seven.good(), 1);
         due("its ticks", seven.best(), seven.ticks());
+        seven.machine(1, 2, 3, 4, 10);
+        // To 10 and back, to 30 and back, ..; the farthest one comes last.
+        due("seven tours", seven.best(), 2 * (10 + 30 + 50 + 70 + 90 + 110) + 130 + 7 * 5);
+        duePlan("seven tours", seven, 16, 17, 18, 19, 20, 21, 22);
+        PlacingDesk five = deskOf(5);
+        five.machine(4, 2, 3, 4, 10);
+        due("four in a tour", five.best(), 10 + 10 + 90 + 5 * 5);
+        duePlan("four in a tour", five, 16, 17, 2, 3, 4);
         PlacingDesk runs = deskWithRun();
         due("the same plan", runs.best(), 40);
         due("the run is gone", runs.told(0), NONE);
@@ -547,6 +580,36 @@ public final class PromiseTest {
         turned.feeder(0, 0, 1);
         due("turned", turned.best(), 14);
         duePlan("fewest ticks first", turned, 17, 0);
+    }
+
+    private static void bestWithFineOnes() {
+        PlacingDesk one = new PlacingDesk();
+        one.kind(0, 1, 1, 2, true);
+        one.place(199, 100, 0);
+        one.feeder(1, 0, 0);
+        due("one place", one.best(), 10 + 20 + 2 + 179 + 4 + 100 + 3);
+        duePlan("one place", one, 16);
+        PlacingDesk two = new PlacingDesk();
+        two.kind(0, 1, 1, 0, true);
+        two.kind(1, 1, 1, 0, false);
+        two.place(190, 50, 0);
+        two.place(20, 100, 1);
+        two.feeder(1, 0, 0);
+        two.feeder(0, 1, 0);
+        // Without the camera first: 2 + 100 + 3; then 100 + 2 + 179 + 4 + 50 + 3 from (20, 100).
+        // Both in one tour: 2 + 20 + 2 + 179 + 4 + 50 + 3 + 170 + 3. Fine one first: more.
+        due("fine and not", two.best(), 433);
+        duePlan("fine and not", two, 16, 1);
+        due("as reckoned", two.ticks(), 433);
+        two.machine(1, 2, 3, 4, 10);
+        due("singly", two.best(), 105 + 338);
+        duePlan("singly", two, 17, 16);
+        PlacingDesk both = new PlacingDesk();
+        both.kind(0, 1, 1, 0, true);
+        both.place(190, 50, 0);
+        both.place(190, 90, 0);
+        both.feeder(0, 0, 0);
+        due("two looks", both.best(), 4 + 199 + 8 + 50 + 3 + 40 + 3);
     }
 
     private static void plan() {
@@ -604,6 +667,12 @@ public final class PromiseTest {
         due("one to make", runs.lay(), 1);
         due("the run is gone", runs.told(3), NONE);
         due("the plan stays", runs.count(1), 2);
+        PlacingDesk neighbours = new PlacingDesk();
+        neighbours.place(0, 0, 0);
+        neighbours.feeder(1, 0, 6);
+        neighbours.then(0, true);
+        due("neighbours", neighbours.lay(), 1);
+        due("neighbours exchanged", neighbours.slot(0, 1), 6);
         PlacingDesk twice = new PlacingDesk();
         twice.place(0, 0, 0);
         twice.place(100, 0, 1);
@@ -765,6 +834,9 @@ public final class PromiseTest {
         due("run", desk.run(), 2 + 2);
         dueTold("late", desk, 4, 2, 1, 0, 4, NONE, 2, 1);
         due("the part of 3 is lost", desk.slot(0, 1), 98);
+        for (int p = 0; p < 4; p++) {
+            due("missing " + p, desk.state(p), 2);
+        }
         // A tour in which one is wanted and one is not.
         PlacingDesk some = deskOf(3);
         some.late(1, 0);
@@ -805,6 +877,19 @@ public final class PromiseTest {
         planSingly(change);
         due("no change", change.run(), 2);
         due("both tours", change.told(6), 2);
+        PlacingDesk between = new PlacingDesk();
+        between.kind(1, 1, 1, 1, true);
+        between.place(10, 10, 0);
+        between.place(30, 10, 1);
+        between.place(50, 10, 0);
+        between.feeder(0, 0, 9);
+        between.feeder(1, 1, 9);
+        between.late(1, 0);
+        between.again(0);
+        between.miss(1);
+        planSingly(between);
+        due("no change in between", between.run(), 2 + 2 + 50 + 3);
+        due("three tours", between.told(6), 3);
     }
 
     private static void runStops() {
@@ -837,6 +922,19 @@ public final class PromiseTest {
         planSingly(desk);
         due("a new plan from its beginning", desk.run() > 0, true);
         due("four tours", desk.told(6), 4);
+        desk.feeder(0, 0, 0);
+        due("anew, and it stops at once", desk.run(), 0);
+        dueTold("stopped at once", desk, 0, 0, 0, 0, 0, 0, 0, 0);
+        // What is late behind a missing one is not missing before its own tour comes.
+        PlacingDesk later = deskOf(3);
+        later.late(2, 0);
+        later.again(0);
+        later.miss(1);
+        later.feeder(0, 0, 1);
+        planSingly(later);
+        due("stops in the second tour", later.run(), 2);
+        due("the third is not reached", later.state(2), 0);
+        due("one missing", later.told(4), 1);
     }
 
     private static void runStopsBehindMissing() {
@@ -855,6 +953,40 @@ public final class PromiseTest {
         desk.feeder(0, 0, 1);
         due("on", desk.run(), 2 + 2 + 50 + 3);
         dueTold("at its end", desk, 57, 2, 1, 1, 2, NONE, 2, 1);
+    }
+
+    private static void tenPlaces() {
+        PlacingDesk desk = deskOf(10);
+        for (int p = 1; p < 10; p++) {
+            due("a chain", desk.late(p, p - 1), true);
+        }
+        due("a ring of ten", desk.late(0, 9), false);
+        due("nine pairs", desk.count(4), 9);
+        for (int p = 0; p < 10; p++) {
+            due("then", desk.then(p, p % 2 == 0), p + 1);
+        }
+        due("eleventh", desk.then(10, true), NONE);
+        due("good", desk.good(), 1);
+        due("best", desk.best(), NONE);
+        due("five tours", desk.count(2), 5);
+        due("a run", desk.run(), desk.ticks());
+        due("ten set", desk.told(3), 10);
+        desk.again(3);
+        for (int n = 1; n <= 200; n++) {
+            desk.miss(n);
+        }
+        due("four takes, and nothing is wanted behind", desk.run(), 4 * 2 + 4 * 2);
+        due("eight takes", desk.told(1), 8);
+        due("ten missing", desk.told(4), 10);
+        PlacingDesk loose = deskOf(10);
+        planSingly(loose);
+        loose.again(3);
+        for (int n = 1; n <= 200; n++) {
+            loose.miss(n);
+        }
+        due("forty takes", loose.run(), 80);
+        due("forty misses", loose.told(2), 40);
+        due("parts left", loose.slot(0, 1), 60);
     }
 
     private static void told() {
