@@ -734,8 +734,8 @@ public final class PlacingDesk {
             if (depth < gear.nozzles && depth < DIGITS) {
                 for (int p = 0; p < board.places; p++) {
                     if (canCome(p, done | tour) && board.nozzleOf(p) == board.nozzleOf(last)) {
-                        int way = inside + way(board.x[last], board.y[last], board.x[p], board.y[p]);
-                        extend(done, tour | (1 << p), p, way, withDigit(key, depth, p), depth + 1);
+                        int on = inside + way(board.x[last], board.y[last], board.x[p], board.y[p]);
+                        extend(done, tour | (1 << p), p, on, withDigit(key, depth, p), depth + 1);
                     }
                 }
             }
