@@ -142,10 +142,11 @@ public final class PlacingDesk {
         if (!reckoner.isGood()) {
             return NONE;
         }
+        // The RUN goes even if no exchange is made: only a refused call keeps it.
+        trip.exists = false;
         int exchanges = 0;
         while (exchanges < MOST_EXCHANGES && reckoner.makeBestExchange()) {
             exchanges++;
-            trip.exists = false;
         }
         return exchanges;
     }

@@ -538,6 +538,7 @@ public final class ModelTest {
             if (!isGood(plan)) {
                 return -1;
             }
+            running = false;
             int exchanges = 0;
             while (true) {
                 int before = ticksOf(plan);
@@ -558,7 +559,6 @@ public final class ModelTest {
                 }
                 swap(first, second);
                 exchanges++;
-                running = false;
             }
         }
 

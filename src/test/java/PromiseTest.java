@@ -81,6 +81,7 @@ public final class PromiseTest {
         bestWithFineOnes();
         plan();
         lay();
+        layEndsRun();
         miss();
         again();
         run();
@@ -657,16 +658,6 @@ public final class PromiseTest {
         due("likes", likes.lay(), 1);
         due("the lower first one", likes.slot(0, 0), 0);
         due("not the other", likes.slot(1, 0), 2);
-        PlacingDesk runs = deskWithRun();
-        due("none to make", runs.lay(), 0);
-        due("none made: the run stays", runs.told(3), 2);
-        runs.feeder(0, NONE, 0);
-        due("refused", runs.lay(), NONE);
-        due("refused: the run stays", runs.told(3), 2);
-        runs.feeder(3, 0, 4);
-        due("one to make", runs.lay(), 1);
-        due("the run is gone", runs.told(3), NONE);
-        due("the plan stays", runs.count(1), 2);
         PlacingDesk neighbours = new PlacingDesk();
         neighbours.place(0, 0, 0);
         neighbours.feeder(1, 0, 6);
@@ -684,6 +675,41 @@ public final class PromiseTest {
         due("twice after", twice.ticks(), 0 + 2 + 0 + 3 + 100 + 2 + 3);
         due("kind 0", twice.slot(0, 0), 0);
         due("kind 1", twice.slot(1, 0), 1);
+    }
+
+    private static void layEndsRun() {
+        PlacingDesk runs = deskWithRun();
+        runs.feeder(0, NONE, 0);
+        due("refused", runs.lay(), NONE);
+        due("refused: the run stays", runs.told(3), 2);
+        due("refused: its states too", runs.state(0), 1);
+        runs.feeder(3, 0, 4);
+        due("one to make", runs.lay(), 1);
+        due("the run is gone", runs.told(3), NONE);
+        due("its states too", runs.state(0), NONE);
+        due("the plan stays", runs.count(1), 2);
+        PlacingDesk none = deskWithRun();
+        due("none to make", none.lay(), 0);
+        due("none made: the run is gone", none.told(3), NONE);
+        due("none made: its states too", none.state(0), NONE);
+        due("none made: the plan stays", none.count(1), 2);
+        due("no run, none to make", none.lay(), 0);
+        due("no run: there is none", none.told(0), NONE);
+        PlacingDesk empty = new PlacingDesk();
+        due("a run of nothing", empty.run(), 0);
+        due("nothing to lay", empty.lay(), 0);
+        due("a run of nothing is gone", empty.told(0), NONE);
+        PlacingDesk stopped = deskOf(2);
+        planSingly(stopped);
+        stopped.feeder(0, 0, 1);
+        due("it stops behind one", stopped.run(), 2 + 10 + 3);
+        due("for the other", stopped.told(5), 1);
+        due("stopped: none to make", stopped.lay(), 0);
+        due("stopped: the run is gone", stopped.told(5), NONE);
+        stopped.feeder(0, 0, 9);
+        due("it begins anew", stopped.run(), 2 + 10 + 3 + 10 + 2 + 30 + 3);
+        due("with both", stopped.told(1), 2);
+        due("parts of both", stopped.slot(0, 1), 7);
     }
 
     private static void miss() {
