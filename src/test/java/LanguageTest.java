@@ -7,6 +7,7 @@ import java.nio.file.Files;
 import java.nio.file.Path;
 import java.util.ArrayList;
 import java.util.List;
+import java.util.Random;
 import java.util.Set;
 import java.util.TreeSet;
 import java.util.regex.Matcher;
@@ -42,6 +43,7 @@ public final class LanguageTest {
         check("at most twelve classes", PlacingDesk.class.getDeclaredClasses().length < 12);
         checkLengths(code);
         checkRoom();
+        checkAnyArguments();
         System.out.println(wrong == 0 ? "the rules that were looked at hold" : wrong + " are broken");
         if (wrong != 0) {
             System.exit(1);
@@ -164,5 +166,52 @@ public final class LanguageTest {
         sevenPlaces();
         used = room.getCurrentThreadAllocatedBytes() - before;
         check("a new desk takes " + used + " bytes", used < 10000);
+    }
+
+    private static final int[] EDGES = {Integer.MIN_VALUE, -1000, -2, -1, 0, 0, 1, 1, 2, 2, 3, 4, 5, 6, 7,
+        8, 9, 10, 16, 20, 31, 32, 50, 100, 199, 200, 201, Integer.MAX_VALUE};
+
+    private static int anyCall(PlacingDesk desk, Random random) {
+        int[] a = new int[5];
+        for (int i = 0; i < a.length; i++) {
+            a[i] = random.nextInt(4) == 0 ? random.nextInt(200) : EDGES[random.nextInt(EDGES.length)];
+        }
+        boolean flag = random.nextBoolean();
+        switch (random.nextInt(20)) {
+            case 0: return desk.kind(a[0], a[1], a[2], a[3], flag) ? 1 : 0;
+            case 1: return desk.place(a[0], a[1], a[2]);
+            case 2: return desk.late(a[0], a[1]) ? 1 : 0;
+            case 3: return desk.feeder(a[0], a[1], a[2]) ? 1 : 0;
+            case 4: return desk.machine(a[0], a[1], a[2], a[3], a[4]) ? 1 : 0;
+            case 5: return desk.ahead(a[0], a[1]);
+            case 6: return desk.then(a[0], flag);
+            case 7: return desk.good();
+            case 8: return desk.ticks();
+            case 9: return desk.best();
+            case 10: return desk.plan(a[0]);
+            case 11: return desk.lay();
+            case 12: return desk.miss(a[0]) ? 1 : 0;
+            case 13: return desk.again(a[0]) ? 1 : 0;
+            case 14: return desk.run();
+            case 15: return desk.told(a[0]);
+            case 16: return desk.state(a[0]);
+            case 17: return desk.slot(a[0], a[1]);
+            case 18: return desk.count(a[0]);
+            default: desk.clear();
+        }
+        return 0;
+    }
+
+    /** No call throws or fails to end, for any arguments in any state; none answers below NONE. */
+    private static void checkAnyArguments() {
+        for (int seed = 1; seed <= 2000; seed++) {
+            Random random = new Random(seed);
+            PlacingDesk desk = new PlacingDesk();
+            for (int call = 1; call <= 512; call++) {
+                int answer = anyCall(desk, random);
+                check("seed " + seed + ", call " + call + " answers " + answer,
+                        answer >= PlacingDesk.NONE);
+            }
+        }
     }
 }
