@@ -1,5 +1,3 @@
-import java.util.function.IntPredicate;
-
 /**
  * Each sentence of "What it is" and of "Terms" that names a bound, a first value, an edge or a case
  * of its own: the last that is allowed, the first that is not, on both sides where there are two.
@@ -145,7 +143,7 @@ public final class BoundsOfTermsTest {
     }
 
     private void manyRunsIn512Calls() {
-        dues.sentence(HEAD, "what later calls answer is free");
+        dues.sentence(HEAD, "at most 512 calls after it has been made");
         PlacingDesk desk = Desks.ofOne(10, 0, 0, 0);
         desk.feeder(0, 0, 100);
         for (int call = 5; call <= 512; call++) {
@@ -1233,16 +1231,14 @@ public final class BoundsOfTermsTest {
         stopped.feeder(0, 0, 1);
         stopped.run();
         dues.dueStates("numbers go on over a stop", stopped, 1, 2);
-        hundredTimes(take -> take % 2 == 1);
+        oddTakesMiss();
     }
 
-    /** Ten places, all takes with odd numbers miss: 20 takes in each run. */
-    private void hundredTimes(IntPredicate misses) {
+    /** Ten places, of which each has two takes: 20 in each run. */
+    private void oddTakesMiss() {
         PlacingDesk desk = Desks.of(10);
-        for (int n = 1; n <= 200; n++) {
-            if (misses.test(n)) {
-                desk.miss(n);
-            }
+        for (int n = 1; n <= 199; n += 2) {
+            desk.miss(n);
         }
         Desks.planSingly(desk);
         for (int run = 0; run < 5; run++) {
