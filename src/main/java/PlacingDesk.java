@@ -637,6 +637,8 @@ public final class PlacingDesk {
         /** Stands for the PLACE set last when there is none yet. */
         private static final int START = 7;
         private static final int LASTS = 8;
+        /** Above all ticks with their keys: no TOUR has been found yet. */
+        private static final int UNFOUND = 0x7fffffff;
 
         private final Board board;
         private final Slots slots;
@@ -666,7 +668,7 @@ public final class PlacingDesk {
             for (int set = 1; set <= full; set++) {
                 measure(set);
             }
-            Arrays.fill(rest, Integer.MAX_VALUE);
+            Arrays.fill(rest, UNFOUND);
             for (int last = 0; last < LASTS; last++) {
                 rest[full * LASTS + last] = 0;
             }

@@ -23,6 +23,9 @@ public final class LanguageTest {
             "clear void ()", "good int ()", "ticks int ()", "best int ()", "plan int (int)",
             "lay int ()", "miss boolean (int)", "again boolean (int)", "run int ()", "told int (int)",
             "state int (int)", "slot int (int,int)", "count int (int)");
+    /** What the class uses of the library; LANGUAGE.md has more, and no constant such as MAX_VALUE. */
+    private static final Set<String> LIBRARY =
+            Set.of("Arrays.fill", "Integer.bitCount", "Math.abs", "Math.max", "Math.min");
     private static int wrong = 0;
 
     private static void check(String rule, boolean holds) {
@@ -61,6 +64,11 @@ public final class LanguageTest {
         Matcher imports = Pattern.compile("import ([^;]+);").matcher(code);
         while (imports.find()) {
             check("import " + imports.group(1), imports.group(1).equals("java.util.Arrays"));
+        }
+        String unimported = code.replaceAll("import [^;]+;", "");
+        Matcher uses = Pattern.compile("\\b[A-Z]\\w*[a-z]\\w*\\.\\w+").matcher(unimported);
+        while (uses.find()) {
+            check("the library's " + uses.group(), LIBRARY.contains(uses.group()));
         }
         check("signs 1 to 127", code.chars().allMatch(sign -> sign > 0 && sign < 128));
     }
